@@ -366,7 +366,7 @@ public final class VaneCourt {
         int asked = text == null ? 1 : text.factsAsked | 1;
         for (int many = 0; many <= 8; many++) {
             for (int set = 0; set < FACT_SETS; set++) {
-                if (Integer.bitCount(set) == many && (set & ~asked) == 0 && allAlike(c, facts ^ set)) {
+                if ((set & ~asked) == 0 && Integer.bitCount(set) == many && allAlike(c, facts ^ set)) {
                     return set;
                 }
             }
@@ -1299,7 +1299,13 @@ public final class VaneCourt {
                 return false;
             }
             int start = text.size;
-            boolean fine = word == Word.CODE || word == Word.FOGS ? readWhole() : readSum(0);
+            boolean asks = word == Word.CODE || word == Word.FOGS;
+            boolean fine = asks ? readEither(0) : readSum(0);
+            if (fine && asks && kind == Word.UNLESS) {
+                advance();
+                fine = readEither(0);
+                text.emit(Word.UNLESS, 0);
+            }
             if (fine) {
                 text.setLaw(lawKind, start);
             }
@@ -1314,19 +1320,6 @@ public final class VaneCourt {
             }
             lawKind = quarter;
             return takeNumber(0, QUARTERS - 1) && take(':');
-        }
-
-        private boolean readWhole() {
-            if (!readEither(0)) {
-                return false;
-            }
-            if (kind != Word.UNLESS) {
-                return true;
-            }
-            advance();
-            boolean fine = readEither(0);
-            text.emit(Word.UNLESS, 0);
-            return fine;
         }
 
         // The depth, here and below, is how many of ( not most - are open around what is read.
@@ -1351,22 +1344,41 @@ public final class VaneCourt {
         }
 
         private boolean readAsk(int depth) {
-            switch (kind) {
-                case Word.NOT:
-                    return open(depth) && readNot(depth + 1);
-                case Word.MOST:
-                    return open(depth) && readMost(depth + 1);
-                case Word.FACT:
-                    if (lawKind >= QUARTERS) {
-                        return refuse(5);
-                    }
-                    advance();
-                    boolean fine = takeNumber(0, 7);
-                    text.emitFact(number);
-                    return fine;
-                default:
-                    return readCompared(depth);
+            if (kind == Word.NOT) {
+                return open(depth) && readNot(depth + 1);
             }
+            if (kind == Word.MOST) {
+                return open(depth) && readMost(depth + 1);
+            }
+            if (kind == Word.FACT) {
+                return readFact();
+            }
+            if (!readSum(depth)) {
+                return false;
+            }
+            int sign = kind;
+            if (!compares(sign)) {
+                return refuse(1);
+            }
+            advance();
+            boolean fine = readSum(depth);
+            text.emit(sign, 0);
+            return fine;
+        }
+
+        private static boolean compares(int sign) {
+            return sign == '<' || sign == '>' || sign == '=' || sign == '#'
+                    || sign == Word.AT_MOST || sign == Word.AT_LEAST;
+        }
+
+        private boolean readFact() {
+            if (lawKind >= QUARTERS) {
+                return refuse(5);
+            }
+            advance();
+            boolean fine = takeNumber(0, 7);
+            text.emitFact(number);
+            return fine;
         }
 
         private boolean open(int depth) {
@@ -1396,22 +1408,6 @@ public final class VaneCourt {
             }
             text.emit(Word.MOST, parts);
             return fine && take(')');
-        }
-
-        private boolean readCompared(int depth) {
-            if (!readSum(depth)) {
-                return false;
-            }
-            int sign = kind;
-            boolean compares = sign == '<' || sign == '>' || sign == '=' || sign == '#'
-                    || sign == Word.AT_MOST || sign == Word.AT_LEAST;
-            if (!compares) {
-                return refuse(1);
-            }
-            advance();
-            boolean fine = readSum(depth);
-            text.emit(sign, 0);
-            return fine;
         }
 
         private boolean readSum(int depth) {
