@@ -1000,7 +1000,8 @@ public final class VaneCourt {
         void scan() {
             tokens = 0;
             int at = 0;
-            while (at < length) {
+            // Each turn takes one byte at least.
+            for (int i = 0; i < MOST && at < length; i++) {
                 int sign = bytes[at];
                 if (sign == ' ' || sign == '\n') {
                     at++;
