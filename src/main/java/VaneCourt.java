@@ -270,17 +270,22 @@ public final class VaneCourt {
     }
 
     public int foretold(int n, int what) {
-        if (!within(n, 1, HOURS_AT_ONCE) || n > court.hoursLeft()) {
+        if (!within(n, 1, HOURS_AT_ONCE)) {
             return NONE;
         }
         foresight.look(ruling(), n);
+        // Behind more hours than can pass, the wind is that of the last hour.
+        int last = foresight.seen;
+        if (!within(last, 0, HOURS_AT_ONCE)) {
+            return NONE;
+        }
         switch (what) {
             case 0:
-                return foresight.quarters[n];
+                return foresight.quarters[last];
             case 1:
-                return foresight.forces[n];
+                return foresight.forces[last];
             case 2:
-                return foresight.fogs[n];
+                return foresight.fogs[last];
             default:
                 return NONE;
         }

@@ -130,8 +130,9 @@ public final class PromiseTest {
     }
 
     private static void passTo(VaneCourt x, int hour) {
-        for (int i = 0; i < 200 && x.is(3) < hour; i++) {
-            x.hour(Math.min(60, hour - x.is(3)));
+        // Few calls: an object answers for 512 alone.
+        for (int now = x.is(3); now < hour; now += 60) {
+            x.hour(Math.min(60, hour - now));
         }
         due("passed to", x.is(3), hour);
     }
@@ -765,9 +766,35 @@ public final class PromiseTest {
         x.hour(60);
         due("so it comes", x.is(0), quarter);
         due("so it comes", x.is(1), force);
-        passTo(x, 9940);
-        due("to 9999", x.foretold(59, 0) >= 0, true);
-        due("beyond it", x.foretold(60, 0), NONE);
+        foretoldUpTo9999();
+    }
+
+    private static void foretoldUpTo9999() {
+        // These laws tell the hours apart: 9995 to 9999 have the forces 5 to 9, the quarters 1, 0, 3, 2, 1.
+        VaneCourt x = ruledBy("veers -1;blows hour-hour/10*10;fogs hour=9999;");
+        passTo(x, 9995);
+        int[] quarters = {1, 0, 3, 2, 1};
+        for (int n = 1; n <= 60; n++) {
+            int hours = Math.min(n, 4);
+            due("quarter behind " + n, x.foretold(n, 0), quarters[hours]);
+            due("force behind " + n, x.foretold(n, 1), 5 + hours);
+            due("fog behind " + n, x.foretold(n, 2), n >= 4 ? 1 : 0);
+        }
+        int[][] bad = {{0, 0}, {61, 0}, {-1, 1}, {5, 3}, {60, -1}, {HIGH, 2}, {LOW, 2}};
+        for (int[] b : bad) {
+            due("wrong near 9999 " + Arrays.toString(b), x.foretold(b[0], b[1]), NONE);
+        }
+        due("no hour", x.is(3), 9995);
+        x.hour(4);
+        x.gust(2, 6);
+        int[] hours = {1, 2, 60};
+        for (int n : hours) {
+            due("at 9999 the quarter as now", x.foretold(n, 0), 2);
+            due("at 9999 the force as now", x.foretold(n, 1), 6);
+            due("at 9999 the fog as now", x.foretold(n, 2), 1);
+        }
+        due("at 9999 no other", x.foretold(1, 3), NONE);
+        due("at 9999 no other", x.foretold(0, 0), NONE);
     }
 
     private static void ends() {
