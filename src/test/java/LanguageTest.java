@@ -1,18 +1,28 @@
 import com.sun.source.tree.AssertTree;
 import com.sun.source.tree.BinaryTree;
+import com.sun.source.tree.BlockTree;
 import com.sun.source.tree.ClassTree;
 import com.sun.source.tree.CompilationUnitTree;
+import com.sun.source.tree.EnhancedForLoopTree;
+import com.sun.source.tree.ForLoopTree;
+import com.sun.source.tree.ImportTree;
 import com.sun.source.tree.LambdaExpressionTree;
+import com.sun.source.tree.LiteralTree;
 import com.sun.source.tree.MemberReferenceTree;
 import com.sun.source.tree.MethodInvocationTree;
 import com.sun.source.tree.MethodTree;
 import com.sun.source.tree.NewClassTree;
+import com.sun.source.tree.PrimitiveTypeTree;
+import com.sun.source.tree.SwitchExpressionTree;
 import com.sun.source.tree.SynchronizedTree;
 import com.sun.source.tree.ThrowTree;
 import com.sun.source.tree.Tree;
 import com.sun.source.tree.TryTree;
+import com.sun.source.tree.TypeCastTree;
 import com.sun.source.tree.VariableTree;
+import com.sun.source.tree.WhileLoopTree;
 import com.sun.source.util.JavacTask;
+import com.sun.source.util.TreePath;
 import com.sun.source.util.TreePathScanner;
 import com.sun.source.util.Trees;
 import java.lang.reflect.Constructor;
@@ -231,7 +241,78 @@ public final class LanguageTest {
         }
 
         @Override
+        public Void visitImport(ImportTree t, Void v) {
+            String name = t.getQualifiedIdentifier().toString();
+            must(Set.of("java.util.ArrayList", "java.util.List", "java.util.Arrays", "java.util.Iterator").contains(name),
+                    "import " + name);
+            return super.visitImport(t, v);
+        }
+
+        @Override
+        public Void visitBlock(BlockTree t, Void v) {
+            must(!t.isStatic(), "line " + line(t, false) + ": a static initialiser block");
+            return super.visitBlock(t, v);
+        }
+
+        @Override
+        public Void visitSwitchExpression(SwitchExpressionTree t, Void v) {
+            refuse(t, "a switch that is a value");
+            return super.visitSwitchExpression(t, v);
+        }
+
+        @Override
+        public Void visitEnhancedForLoop(EnhancedForLoopTree t, Void v) {
+            must(trees.getTypeMirror(new TreePath(getCurrentPath(), t.getExpression())).getKind() == TypeKind.ARRAY,
+                    "line " + line(t, false) + ": for over what is no array");
+            return super.visitEnhancedForLoop(t, v);
+        }
+
+        @Override
+        public Void visitForLoop(ForLoopTree t, Void v) {
+            must(t.getCondition() != null && !t.getUpdate().isEmpty(), "line " + line(t, false) + ": a loop without an end");
+            return super.visitForLoop(t, v);
+        }
+
+        @Override
+        public Void visitWhileLoop(WhileLoopTree t, Void v) {
+            String condition = t.getCondition().toString();
+            must(condition.contains("<") || condition.contains(">"), "line " + line(t, false) + ": a loop without a bound");
+            return super.visitWhileLoop(t, v);
+        }
+
+        @Override
+        public Void visitTypeCast(TypeCastTree t, Void v) {
+            must(t.getType() instanceof PrimitiveTypeTree, "line " + line(t, false) + ": a cast of an object");
+            return super.visitTypeCast(t, v);
+        }
+
+        @Override
+        public Void visitLiteral(LiteralTree t, Void v) {
+            if (t.getValue() instanceof String text) {
+                must(text.chars().allMatch(c -> c >= 1 && c <= 127), "line " + line(t, false) + ": a sign of a text");
+            }
+            return super.visitLiteral(t, v);
+        }
+
+        // Narrower than the rule, by what the class needs.
+        @Override
+        public Void visitVariable(VariableTree t, Void v) {
+            String type = trees.getTypeMirror(getCurrentPath()).toString();
+            boolean plain = Set.of("int", "long", "short", "byte", "char", "boolean", "java.lang.String",
+                    "java.lang.StringBuilder").contains(type);
+            boolean row = Set.of("int[]", "long[]", "short[]", "byte[]", "char[]", "boolean[]", "int[][]").contains(type);
+            boolean own = type.matches("VaneCourt\\.\\w+(\\[])?");
+            must(plain || row || own, "line " + line(t, false) + ": of the type " + type);
+            boolean isStatic = t.getModifiers().getFlags().contains(javax.lang.model.element.Modifier.STATIC);
+            must(!isStatic || Set.of("int", "long", "boolean", "char", "java.lang.String").contains(type),
+                    "line " + line(t, false) + ": a constant of the type " + type);
+            return super.visitVariable(t, v);
+        }
+
+        @Override
         public Void visitClass(ClassTree t, Void v) {
+            Tree around = getCurrentPath().getParentPath().getLeaf();
+            must(around instanceof CompilationUnitTree || around instanceof ClassTree, "a local class: " + t.getSimpleName());
             long fields = t.getMembers().stream().filter(m -> m instanceof VariableTree)
                     .filter(m -> !((VariableTree) m).getModifiers().getFlags()
                             .contains(javax.lang.model.element.Modifier.STATIC)).count();

@@ -979,7 +979,8 @@ public final class OracleTest {
             if (style == 0) {
                 nearTheEnd();
             }
-            while (calls < CALLS - 40 && wrong == 0) {
+            // One turn makes fewer than 80 calls.
+            while (calls < CALLS - 80 && wrong == 0) {
                 if (r.nextInt(3) == 0) {
                     ask();
                 } else {
