@@ -11,6 +11,7 @@ import com.sun.source.tree.LiteralTree;
 import com.sun.source.tree.MemberReferenceTree;
 import com.sun.source.tree.MethodInvocationTree;
 import com.sun.source.tree.MethodTree;
+import com.sun.source.tree.NewArrayTree;
 import com.sun.source.tree.NewClassTree;
 import com.sun.source.tree.PrimitiveTypeTree;
 import com.sun.source.tree.SwitchExpressionTree;
@@ -358,8 +359,20 @@ public final class LanguageTest {
             if (t.getClassBody() != null) {
                 refuse(t, "an anonymous class");
             }
+            must(isMadeWithTheObject() || method.equals("VaneCourt.text0"), "line " + line(t, false) + ": an object a call");
             note(t, trees.getElement(getCurrentPath()));
             return super.visitNewClass(t, v);
+        }
+
+        @Override
+        public Void visitNewArray(NewArrayTree t, Void v) {
+            must(isMadeWithTheObject(), "line " + line(t, false) + ": a row a call");
+            return super.visitNewArray(t, v);
+        }
+
+        // All calls of a run share one room; what a field or a constructor makes is made once.
+        private boolean isMadeWithTheObject() {
+            return method.isEmpty() || method.contains("<init>");
         }
 
         private void note(Tree t, Element e) {
