@@ -576,8 +576,9 @@ public final class PromiseTest {
         int quarter = (y.is(0) + (draw == 0 ? 1 : draw == 1 ? 3 : 0)) % 4;
         boolean fog = draw < 2 && (y.is(3) + 1) % 10 < 3;
         y.by(NONE);
-        while (y.about(1) < 2) {
-            read(y, y.about(1) == 0 ? "fogs 1=0;" : "fogs 1=1;");
+        if (y.about(1) == 0) {
+            read(y, "fogs 1=0;");
+            read(y, "fogs 1=1;");
         }
         y.by(fog ? 1 : 0);
         y.hour(1);
